@@ -1,6 +1,6 @@
 import java.util.Arrays;
 
-/** Several players on a net of states: who can force what. The promises are told in README.md. */
+/** Several players on a net of states: who can force what. Its promises stand in ../shared/DOC.md. */
 public final class ForceNet {
     public static final int BAD = -1, NOT = -2, FULL = -3, NONE = -4, SPENT = -5, NULL = -11, CAST = -12, INDEX = -13, SIZE = -14;
 
@@ -577,22 +577,6 @@ public final class ForceNet {
             return all;
         }
 
-        /** The GROUP's JOINT MOVE within a JOINT MOVE of all. */
-        int share(int state, int group, int number) {
-            int left = number;
-            int part = 0;
-            int scale = 1;
-            for (int p = players - 1; p >= 0; p--) {
-                int m = movesOf(state, p);
-                if (has(group, p)) {
-                    part += rest(left, m) * scale;
-                    scale *= m;
-                }
-                left = over(left, m);
-            }
-            return part;
-        }
-
         /** The JOINT MOVE of all that a GROUP's and the others' make. */
         int together(int state, int group, int mine, int theirs) {
             int ours = mine;
@@ -934,6 +918,8 @@ public final class ForceNet {
         final Net net;
         final int[] ends = new int[STATES * JOINTS];
         final int[] ways = new int[STATES];
+        // By JOINT MOVES of all: the GROUP's JOINT MOVE within.
+        final int[] shares = new int[JOINTS];
         int group = -1;
         int version = -1;
 
@@ -955,11 +941,28 @@ public final class ForceNet {
 
         private void fill(int s) {
             put(ways, s, net.ways(s, group));
-            int all = net.ways(s, net.everyone());
+            int all = share(s);
             for (int j = 0; j < all; j++) {
-                int spot = s * JOINTS + net.share(s, group, j);
+                int spot = s * JOINTS + at(shares, j);
                 put(ends, spot, at(ends, spot) | 1 << net.target(s, j));
             }
+        }
+
+        /** Tells shares, a PLAYER more each turn, from the back, so that none is lost: how many JOINT MOVES of all. */
+        private int share(int s) {
+            int all = 1;
+            put(shares, 0, 0);
+            for (int p = 0; p < net.players; p++) {
+                int m = net.movesOf(s, p);
+                for (int j = all - 1; j >= 0; j--) {
+                    int mine = at(shares, j);
+                    for (int k = 0; k < m; k++) {
+                        put(shares, j * m + k, has(group, p) ? mine * m + k : mine);
+                    }
+                }
+                all *= m;
+            }
+            return all;
         }
 
         int endsOf(int s, int mine) {

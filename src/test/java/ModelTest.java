@@ -7,7 +7,7 @@ final class ModelTest {
     private static final Check CHECK = new Check("model");
 
     public static void main(String[] args) {
-        for (int seed = 0; seed < 2500; seed++) {
+        for (int seed = 0; seed < 1200; seed++) {
             Random chance = new Random(seed);
             int players = 1 + chance.nextInt(3);
             run(chance, "small " + seed, 2 + chance.nextInt(4 - players / 3), players, players == 1 ? 3 : 2, false);
