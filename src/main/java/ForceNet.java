@@ -1012,7 +1012,7 @@ public final class ForceNet {
             return at(held, 0);
         }
 
-        /** From the last part to the first: so what is within a part is told ahead of it. */
+        /** From the last part to the first: what is within a part is told ahead of it, and the table stays the OUTERMOST's. */
         void refresh() {
             if (netVersion != net.version || formVersion != form.version) {
                 for (int k = form.parts - 1; k >= 0; k--) {
@@ -1024,7 +1024,6 @@ public final class ForceNet {
                 netVersion = net.version;
                 formVersion = form.version;
             }
-            table.prepare(form.group(0));
         }
 
         /** By the table, which its caller prepared for the part's GROUP. */

@@ -8,6 +8,7 @@ final class BlindTest {
         laws();
         order();
         spent();
+        last();
         wrongOnes();
         C.end();
     }
@@ -175,6 +176,36 @@ final class BlindTest {
         C.due("22 5184 rows", x.blind(0), ForceNet.SPENT);
     }
 
+    /** The last PLAYER, the last HEAP, the last STATE. */
+    private static void last() {
+        ForceNet x = new ForceNet();
+        x.net(12, 4);
+        x.moves(11, 3, 3);
+        x.step(11, 2, 4);
+        x.letters(4, 1);
+        Check.read(x, "<3>Fa");
+        C.due("23 the last heap of the last", x.blindMove(11, 3, 11), 2);
+        C.due("22 the last heap of the last", x.blind(11), 1);
+        Check.read(x, "<0>Fa");
+        C.due("22 not of the group", x.blind(11), 0);
+        // A way through all twelve: in the one that is met last one stays, without a.
+        ForceNet y = new ForceNet();
+        y.net(12, 1);
+        for (int s = 1; s < 12; s++) {
+            y.step(s, 0, s - 1);
+            y.letters(s, 1);
+        }
+        Check.read(y, "<0>Ia");
+        C.due("22 stays at the end of the way", y.blind(11), 0);
+        y.step(0, 0, 11);
+        C.due("22 goes round", y.blind(11), 1);
+        C.due("22 goes round", y.blind(0), 1);
+        Check.read(y, "<0>F!a");
+        C.due("22 the whole way", y.blind(11), 1);
+        Check.read(y, "<0>Ga");
+        C.due("22 not on the whole way", y.blind(11), 0);
+    }
+
     private static void wrongOnes() {
         ForceNet x = fork();
         C.due("22 BAD", x.blind(-1), ForceNet.BAD);
@@ -189,7 +220,9 @@ final class BlindTest {
             C.due("23 NOT " + text, x.blindMove(0, 0, 0), ForceNet.NOT);
             C.due("23 NOT ahead of the second BAD " + text, x.blindMove(0, 1, 11), ForceNet.NOT);
             C.due("22 BAD ahead of NOT " + text, x.blind(4), ForceNet.BAD);
-            C.due("23 BAD ahead of NOT " + text, x.blindMove(0, 0, 12), ForceNet.BAD);
+            for (int[] w : new int[][] {{-1, 0, 0}, {4, 0, 0}, {0, -1, 0}, {0, 2, 0}, {0, 0, -1}, {0, 0, 12}}) {
+                C.due("23 BAD ahead of NOT " + text, x.blindMove(w[0], w[1], w[2]), ForceNet.BAD);
+            }
         }
     }
 }

@@ -86,13 +86,28 @@ final class LotTest {
         ForceNet x = new ForceNet();
         x.net(12, 1);
         long power = 1;
-        for (int s = 0; s < 10; s++) {
+        for (int s = 0; s < 11; s++) {
             x.moves(s, 0, 3);
             x.step(s, 0, s + 1);
-            x.step(s, 1, 11);
-            x.step(s, 2, 11);
             power *= 3;
         }
+        x.letters(11, 1);
+        x.lot(0);
+        Check.read(x, "a");
+        C.due("26 staying above", x.chance(0, 0), 1);
+        C.due("26 staying below", x.chance(0, 1), 1);
+        for (int s = 0; s < 11; s++) {
+            x.step(s, 1, 0);
+            x.step(s, 2, 0);
+        }
+        C.due("26 going back above", x.chance(0, 0), 1);
+        C.due("26 going back below", x.chance(7, 1), 1);
+        x.letters(11, 0);
+        for (int s = 0; s < 10; s++) {
+            x.step(s, 1, 11);
+            x.step(s, 2, 11);
+        }
+        power /= 3;
         x.letters(10, 1);
         x.lot(0);
         Check.read(x, "a");
@@ -101,7 +116,7 @@ final class LotTest {
         for (int s = 0; s < 10; s++) {
             x.step(s, 2, 0);
         }
-        // p = 1 / (1 + 1 * (3 + .. + 3 ^ 9) + 3 ^ 10 - (1 + .. )): told by p(s) = (p(s + 1) + p(0)) / 3.
+        // p(s) = (p(s + 1) + p(0)) / 3, and p(10) = 1: so p(0) * (3 ^ 10 - (1 + 3 + .. + 3 ^ 9)) = 1.
         long geometric = (power - 1) / 2;
         C.due("26 back above", x.chance(0, 0), 1);
         C.due("26 back below", x.chance(0, 1), power - geometric);

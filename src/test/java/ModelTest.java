@@ -16,7 +16,27 @@ final class ModelTest {
             Random chance = new Random(100000 + seed);
             run(chance, "big " + seed, 5 + chance.nextInt(8), 1 + chance.nextInt(4), 3, true);
         }
+        for (int seed = 0; seed < 300; seed++) {
+            manyOpen(new Random(200000 + seed), "open " + seed + " ");
+        }
         CHECK.end();
+    }
+
+    /** Twelve STATES, one alone to be come to by a lot among three MOVES nearly everywhere. */
+    private static void manyOpen(Random chance, String name) {
+        SlowNet slow = new SlowNet(chance, 12, 1, 3);
+        slow.lot = 0;
+        for (int s = 0; s < 12; s++) {
+            slow.letters[s] = s == 5 ? 1 : 0;
+        }
+        ForceNet x = new ForceNet();
+        slow.tell(x);
+        Check.read(x, "a");
+        Tree tree = new Tree();
+        tree.kind = 'a';
+        for (int s = 0; s < 12; s++) {
+            odds(x, slow, tree, s, name + s + " ");
+        }
     }
 
     private static void run(Random chance, String name, int states, int players, int most, boolean big) {

@@ -55,6 +55,12 @@ final class NetTest {
             C.due("2 no such state", x.moves(right[0], 0, 1), ForceNet.BAD);
         }
         clearing();
+        ForceNet x2 = new ForceNet();
+        Check.read(x2, "<>XT");
+        C.due("2 few STATES", x2.holds(), 15);
+        x2.net(12, 2);
+        Check.read(x2, "<>XT");
+        C.due("2 more STATES", x2.holds(), 4095);
     }
 
     private static void clearing() {
@@ -265,6 +271,10 @@ final class NetTest {
         for (int i = 0; i < 81; i++) {
             C.due("10 leads " + i, x.leads(11, i), (byte) ((i * 7 + 256) % 12));
         }
+        x.item(3, 0, 80, 3);
+        C.due("10 the first three", x.steps(11, 3, 0, 78, 3), 3);
+        C.due("10 the third", x.leads(11, 2), 3);
+        C.due("10 the fourth stays", x.leads(11, 3), 1);
         // Bytes have a sign: 200 is below 0.
         x.item(3, 0, 0, 200);
         C.due("10 a byte below 0", x.steps(11, 3, 0, 0, 1), ForceNet.NOT);

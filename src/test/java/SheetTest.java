@@ -32,6 +32,12 @@ final class SheetTest {
         C.due("33 a new one", x.sheet(0, 2, 4), 4);
         C.due("33 of another lane", look(x, 0, 0, 3), ForceNet.CAST);
         C.due("33 new items", look(x, 0, 2, 3), 0);
+        for (int i = 0; i < 81; i++) {
+            x.sheet(1, 0, 81);
+            x.item(1, 0, i, 7);
+            x.sheet(1, 0, 81);
+            C.due("33 a new item " + i, look(x, 1, 0, i), 0);
+        }
         C.due("33 an empty row", x.sheet(3, 1, 0), 0);
         C.due("33 of no items", look(x, 3, 1, 0), ForceNet.INDEX);
         C.due("33 SIZE", x.sheet(0, 0, -1), ForceNet.SIZE);
