@@ -189,12 +189,15 @@ public final class ForceNet {
     }
 
     public int answer(int state, int move) {
-        // A FORM of no GROUP bears the GROUP of none, which has the one JOINT MOVE 0.
-        if (!net.hasState(state) || move < 0 || move >= net.ways(state, form.group(0))) {
+        if (!net.hasState(state)) {
             return BAD;
         }
+        // Ahead of the JOINT MOVE: where there is no GROUP, no JOINT MOVE of it can be missing.
         if (!form.isOfGroup()) {
             return NOT;
+        }
+        if (move < 0 || move >= net.ways(state, form.group(0))) {
+            return BAD;
         }
         laws.refresh();
         return plans.hinder(state, move);

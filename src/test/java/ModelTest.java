@@ -73,7 +73,9 @@ final class ModelTest {
         boolean tolls = "FU".indexOf(tree.kind) >= 0;
         if (!law) {
             CHECK.due(told + "plan", x.plan(s), ForceNet.NOT);
-            CHECK.due(told + "answer", x.answer(s, 0), ForceNet.NOT);
+            for (int move = -1; move < 3; move++) {
+                CHECK.due(told + "answer " + move, x.answer(s, move), ForceNet.NOT);
+            }
             CHECK.due(told + "blind", x.blind(s), ForceNet.NOT);
             CHECK.due(told + "blindMove", x.blindMove(s, 0, 0), ForceNet.NOT);
             CHECK.due(told + "helpers", x.helpers(s), ForceNet.NOT);

@@ -6,6 +6,7 @@ final class PlanTest {
         rounds();
         plans();
         answers();
+        answersOfNoGroup();
         tolls();
         walks();
         wrongOnes();
@@ -103,6 +104,22 @@ final class PlanTest {
         x.step(2, 2, 3);
         C.due("18 the least of three", x.answer(2, 0), 2);
         C.due("18 of none: one joint move", x.answer(2, 1), ForceNet.BAD);
+    }
+
+    /** No GROUP is another thing than the GROUP of none, which has the JOINT MOVE 0 alone. */
+    private static void answersOfNoGroup() {
+        ForceNet x = new ForceNet();
+        C.due("18 a new object, move 0", x.answer(0, 0), ForceNet.NOT);
+        C.due("18 a new object, move 1", x.answer(0, 1), ForceNet.NOT);
+        C.due("18 a new object, no STATE", x.answer(4, 1), ForceNet.BAD);
+        Check.read(x, "<>XT");
+        C.due("18 the GROUP of none, move 0", x.answer(0, 0), ForceNet.NONE);
+        C.due("18 the GROUP of none, move 1", x.answer(0, 1), ForceNet.BAD);
+        C.due("18 the GROUP of none, move -1", x.answer(0, -1), ForceNet.BAD);
+        Check.read(x, "!<>XT");
+        C.due("18 a GROUP within", x.answer(0, 1), ForceNet.NOT);
+        x.net(4, 2);
+        C.due("18 behind net()", x.answer(0, 1), ForceNet.NOT);
     }
 
     private static void tolls() {
@@ -227,6 +244,10 @@ final class PlanTest {
             C.due("16 NOT " + text[i], x.round(4), i < 7 ? ForceNet.NOT : ForceNet.NONE);
             C.due("17 NOT " + text[i], x.plan(4), i < 5 ? ForceNet.NOT : ForceNet.NONE);
             C.due("18 NOT " + text[i], x.answer(4, 0), i < 5 ? ForceNet.NOT : 0);
+            for (int move : new int[] {-1, 2, 80, Integer.MAX_VALUE, Integer.MIN_VALUE}) {
+                C.due("18 a move of no GROUP " + text[i] + " " + move, x.answer(0, move), i < 5 ? ForceNet.NOT : ForceNet.BAD);
+                C.due("18 BAD ahead of NOT " + text[i] + " " + move, x.answer(5, move), ForceNet.BAD);
+            }
             C.due("19 NOT " + text[i], x.toll(4), i < 8 ? ForceNet.NOT : ForceNet.NONE);
             C.due("BAD ahead of NOT " + text[i], x.round(5) + x.plan(5) + x.answer(5, 0) + x.toll(5), 4 * ForceNet.BAD);
         }
