@@ -997,6 +997,9 @@ public final class ForceNet {
 
     /** Where each part of THE FORM HOLDS, and the ROUNDS of the OUTERMOST. */
     private static final class Laws {
+        // All sets of PLAYERS as bits: the fewer first, of as few the one with the lesser PLAYERS first (0 and 3 ahead of 1 and 2).
+        static final int[] HELPERS = {0, 1, 2, 4, 8, 3, 5, 9, 6, 10, 12, 7, 11, 13, 14, 15};
+
         final Net net;
         final Form form;
         final Table table;
@@ -1117,12 +1120,11 @@ public final class ForceNet {
         int fewestMore(int state) {
             int found = NONE;
             int mine = form.group(0);
-            for (int size = 0; size <= net.players && found == NONE; size++) {
-                for (int more = 0; more <= net.everyone() && found == NONE; more++) {
-                    if ((more & mine) == 0 && Integer.bitCount(more) == size) {
-                        table.prepare(mine | more);
-                        found = has(judge(0), state) ? more : NONE;
-                    }
+            for (int i = 0; i < HELPERS.length && found == NONE; i++) {
+                int more = at(HELPERS, i);
+                if (net.hasGroup(more) && (more & mine) == 0) {
+                    table.prepare(mine | more);
+                    found = has(judge(0), state) ? more : NONE;
                 }
             }
             // The ROUNDS are those of another GROUP now.

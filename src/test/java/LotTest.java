@@ -254,7 +254,7 @@ final class LotTest {
             Check.read(x, text[i]);
             C.due("31 " + text[i], x.helpers(0), due[i]);
         }
-        // Of as few, the least as bits: 1 and 2 ahead of 0 and 3.
+        // Of as few, the least PLAYER first: 0 and 3 ahead of 1 and 2.
         ForceNet y = new ForceNet();
         y.net(2, 4);
         for (int p = 0; p < 4; p++) {
@@ -265,7 +265,7 @@ final class LotTest {
         }
         y.letters(1, 1);
         Check.read(y, "<>Xa");
-        C.due("31 the first by numbers", y.helpers(0), 6);
+        C.due("31 the first by numbers", y.helpers(0), 9);
         C.due("31 holds", y.helpers(1), 0);
         Check.read(y, "<0>Fa");
         C.due("31 one more", y.helpers(0), 8);
@@ -276,6 +276,36 @@ final class LotTest {
         Check.read(y, "!<0>Xa");
         C.due("31 NOT", y.helpers(0), ForceNet.NOT);
         C.due("31 BAD ahead of NOT", y.helpers(2), ForceNet.BAD);
+        firstHelpers();
+    }
+
+    /** Any sets of as many PLAYERS can: of these the first is due, by each list below. */
+    private static void firstHelpers() {
+        int[][] orders = {{1, 2, 4, 8}, {3, 5, 9, 6, 10, 12}, {7, 11, 13, 14}};
+        for (int[] order : orders) {
+            for (int some = 1; some < 1 << order.length; some++) {
+                ForceNet x = new ForceNet();
+                x.net(2, 4);
+                for (int p = 0; p < 4; p++) {
+                    x.moves(0, p, 2);
+                }
+                for (int j = 0; j < 16; j++) {
+                    x.step(0, j, hasSome(order, some, Integer.reverse(j) >>> 28) ? 1 : 0);
+                }
+                x.letters(1, 1);
+                Check.read(x, "<>Xa");
+                C.due("31 the first of as few " + some, x.helpers(0), order[Integer.numberOfTrailingZeros(some)]);
+            }
+        }
+    }
+
+    private static boolean hasSome(int[] sets, int some, int players) {
+        for (int i = 0; i < sets.length; i++) {
+            if ((some >> i & 1) != 0 && (sets[i] & ~players) == 0) {
+                return true;
+            }
+        }
+        return false;
     }
 
     private static void count() {

@@ -635,16 +635,30 @@ final class SlowNet {
         return false;
     }
 
+    /** Of as few the one whose PLAYERS, written as rising digits, come first. */
     int helpers(Tree t, int state) {
         int best = ForceNet.NONE;
-        for (int more = everyone(); more >= 0; more--) {
+        for (int more = 0; more <= everyone(); more++) {
             boolean apart = (more & t.group) == 0;
-            boolean fewer = best < 0 || Integer.bitCount(more) <= Integer.bitCount(best);
-            if (apart && fewer && holds(t, t.group | more)[state]) {
+            if (apart && holds(t, t.group | more)[state] && (best < 0 || isAhead(digits(more), digits(best)))) {
                 best = more;
             }
         }
         return best;
+    }
+
+    private static boolean isAhead(String one, String other) {
+        return one.length() == other.length() ? one.compareTo(other) < 0 : one.length() < other.length();
+    }
+
+    private static String digits(int group) {
+        StringBuilder text = new StringBuilder();
+        for (int p = 0; p < 4; p++) {
+            if ((group >> p & 1) != 0) {
+                text.append(p);
+            }
+        }
+        return text.toString();
     }
 
     /** Fractions without a common divisor. */
