@@ -98,8 +98,9 @@ final class Look {
             for (int lane = 0; lane < 3; lane++) {
                 int any = x.steps(0, sheet, lane, 0, 0);
                 see("sheet", any);
-                for (int i = 0; any == 0 && x.steps(1, sheet, lane, i, 1) != ForceNet.INDEX; i++) {
-                    int n = x.steps(0, sheet, lane, i, 1);
+                int n = any;
+                for (int i = 0; any == 0 && n != ForceNet.INDEX; i++) {
+                    n = x.steps(0, sheet, lane, i, 1);
                     see("item", n == 1 ? x.leads(0, 0) : n);
                 }
             }

@@ -29,8 +29,7 @@ final class ModelTest {
         for (int s = 0; s < 12; s++) {
             slow.letters[s] = s == 5 ? 1 : 0;
         }
-        ForceNet x = new ForceNet();
-        slow.tell(x);
+        ForceNet x = slow.told();
         Check.read(x, "a");
         Tree tree = new Tree();
         tree.kind = 'a';
@@ -40,31 +39,46 @@ final class ModelTest {
     }
 
     private static void run(Random chance, String name, int states, int players, int most, boolean big) {
-        ForceNet x = new ForceNet();
         SlowNet slow = new SlowNet(chance, states, players, most);
-        slow.tell(x);
         for (int k = 0; k < (big ? 2 : 5); k++) {
             Tree tree = Tree.any(chance, big ? 2 : 1 + chance.nextInt(3), players);
-            List<Tree> parts = tree.parts();
-            if (parts.size() > 24 || tree.text().length() > 100) {
-                continue;
+            if (tree.parts().size() <= 24 && tree.text().length() <= 100) {
+                form(slow, tree, name + " " + tree.text() + " ", chance);
             }
-            String told = name + " " + tree.text() + " ";
+        }
+        for (int s = 0; s < states; s++) {
+            goals(slow.told(), slow, s, name + " " + s + " ", big);
+            forces(slow.told(), slow, s, name + " " + s, chance);
+        }
+    }
+
+    /** An object has 512 calls: so each STATE has one of its own. */
+    private static void form(SlowNet slow, Tree tree, String told, Random chance) {
+        List<Tree> parts = tree.parts();
+        for (int s = 0; s < slow.states; s++) {
+            ForceNet x = slow.told();
+            askOtherThings(x, slow, s, chance);
             CHECK.due(told + "form", Check.read(x, tree.text()), parts.size());
             CHECK.due(told + "count", x.count(2), parts.size());
             CHECK.due(told + "holds", x.holds(), SlowNet.bits(slow.holds(tree)));
             for (int i = 0; i < parts.size(); i++) {
                 CHECK.due(told + "part " + i, x.part(i), SlowNet.bits(slow.holds(parts.get(i))));
             }
-            for (int s = 0; s < states; s++) {
-                laws(x, slow, tree, s, told + s + " ", chance);
-                odds(x, slow, tree, s, told + s + " ");
-            }
+            laws(x, slow, tree, s, told + s + " ", chance);
+            odds(x, slow, tree, s, told + s + " ");
         }
-        for (int s = 0; s < states; s++) {
-            goals(x, slow, s, name + " " + s + " ", big);
-        }
-        forces(x, slow, name, chance);
+    }
+
+    /** Another FORM and other LETTERS, asked and put back: nothing of them may be left. */
+    private static void askOtherThings(ForceNet x, SlowNet slow, int s, Random chance) {
+        Check.read(x, Tree.any(chance, 1, slow.players).text());
+        x.letters(s, 255 - slow.letters[s]);
+        x.holds();
+        x.helpers(s);
+        x.blind(s);
+        x.letters(s, slow.letters[s]);
+        x.plan(s);
+        x.helpers(s);
     }
 
     private static void laws(ForceNet x, SlowNet slow, Tree tree, int s, String told, Random chance) {
@@ -166,18 +180,15 @@ final class ModelTest {
         }
     }
 
-    private static void forces(ForceNet x, SlowNet slow, String name, Random chance) {
-        for (int s = 0; s < slow.states; s++) {
-            for (int group = 0; group <= slow.everyone(); group++) {
-                int set = chance.nextInt(1 << slow.states);
-                boolean[] of = new boolean[slow.states];
-                for (int u = 0; u < slow.states; u++) {
-                    of[u] = (set >> u & 1) != 0;
-                }
-                String told = name + " " + s + " group " + group;
-                CHECK.due(told + " force " + set, x.force(s, group, set), slow.force(s, group, of) ? 1 : 0);
-                CHECK.due(told + " joint", x.joint(s, group), slow.joint(s, group).size());
+    private static void forces(ForceNet x, SlowNet slow, int s, String told, Random chance) {
+        for (int group = 0; group <= slow.everyone(); group++) {
+            int set = chance.nextInt(1 << slow.states);
+            boolean[] of = new boolean[slow.states];
+            for (int u = 0; u < slow.states; u++) {
+                of[u] = (set >> u & 1) != 0;
             }
+            CHECK.due(told + " group " + group + " force " + set, x.force(s, group, set), slow.force(s, group, of) ? 1 : 0);
+            CHECK.due(told + " group " + group + " joint", x.joint(s, group), slow.joint(s, group).size());
         }
     }
 }

@@ -403,7 +403,7 @@ final class NetEdgeTest {
 
     private static ForceNet small81WithSheet() {
         ForceNet x = small81();
-        x.sheet(0, 0, 81);
+        x.sheet(0, 0, 3);
         return x;
     }
 

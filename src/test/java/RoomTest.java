@@ -11,16 +11,16 @@ final class RoomTest {
 
     public static void main(String[] args) {
         int answers = 0;
-        for (int seed = 0; seed < 400; seed++) {
+        for (int seed = 0; seed < 800; seed++) {
             Random chance = new Random(seed);
             ForceNet x = new ForceNet();
             x.net(2 + chance.nextInt(11), 1 + chance.nextInt(4));
-            for (int k = 0; k < 512; k++) {
+            for (int k = 0; k < 300; k++) {
                 call(x, chance);
                 answers++;
             }
         }
-        C.due("all calls came back", answers, 400 * 512);
+        C.due("all calls came back", answers, 800 * 300);
         room();
         C.end();
     }

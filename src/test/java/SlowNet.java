@@ -19,6 +19,9 @@ final class SlowNet {
     final int[] goals;
     int lot = -1;
 
+    /** How many JOINT MOVES of a STATE may lead elsewhere: with more, 512 calls could not tell the largest nets. */
+    private static final int ELSEWHERE = 14;
+
     SlowNet(Random chance, int states, int players, int most) {
         this.states = states;
         this.players = players;
@@ -37,13 +40,15 @@ final class SlowNet {
                 heaps[p][s] = chance.nextInt(3) == 0 ? chance.nextInt(states) : s;
                 chosen[s][p] = chance.nextInt(m[s][p]);
                 for (int k = 0; k < m[s][p]; k++) {
-                    prices[s][p][k] = chance.nextInt(4) == 0 ? 0 : chance.nextInt(10);
+                    boolean isDear = states < 5 ? chance.nextInt(4) != 0 : chance.nextInt(3) == 0;
+                    prices[s][p][k] = isDear ? chance.nextInt(10) : 0;
                 }
             }
             letters[s] = chance.nextInt(8);
             to[s] = new int[all];
             for (int j = 0; j < all; j++) {
-                to[s][j] = chance.nextInt(3) == 0 ? s : chance.nextInt(states);
+                boolean stays = chance.nextInt(3) == 0 || chance.nextInt(all) >= ELSEWHERE;
+                to[s][j] = stays ? s : chance.nextInt(states);
             }
         }
         for (int p = 0; p < players; p++) {
@@ -52,29 +57,45 @@ final class SlowNet {
         lot = chance.nextInt(players + 1) - 1;
     }
 
-    /** Tells an object all of it. */
-    void tell(ForceNet x) {
+    /** A new object that is told all of it but what is so at first. */
+    ForceNet told() {
+        ForceNet x = new ForceNet();
         x.net(states, players);
         for (int s = 0; s < states; s++) {
             for (int p = 0; p < players; p++) {
-                x.moves(s, p, m[s][p]);
+                if (m[s][p] != 1) {
+                    x.moves(s, p, m[s][p]);
+                }
             }
             for (int p = 0; p < players; p++) {
-                x.heap(p, s, heaps[p][s]);
-                x.choose(p, s, chosen[s][p]);
-                for (int k = 0; k < m[s][p]; k++) {
-                    x.price(s, p, k, prices[s][p][k]);
-                }
+                tell(x, s, p);
             }
             x.letters(s, letters[s]);
             for (int j = 0; j < to[s].length; j++) {
-                x.step(s, j, to[s][j]);
+                if (to[s][j] != s) {
+                    x.step(s, j, to[s][j]);
+                }
             }
         }
         for (int p = 0; p < players; p++) {
             x.goal(p, goals[p]);
         }
         x.lot(lot);
+        return x;
+    }
+
+    private void tell(ForceNet x, int s, int p) {
+        if (heaps[p][s] != s) {
+            x.heap(p, s, heaps[p][s]);
+        }
+        if (chosen[s][p] != 0) {
+            x.choose(p, s, chosen[s][p]);
+        }
+        for (int k = 0; k < m[s][p]; k++) {
+            if (prices[s][p][k] != 0) {
+                x.price(s, p, k, prices[s][p][k]);
+            }
+        }
     }
 
     int everyone() {
