@@ -491,6 +491,18 @@ final class LotEdgeTest {
             C.due("32 " + all + " PLANS", plans(all).count(3), all);
             E.refused("30 SPENT by " + all, () -> plans(all), SPENT, (x, n) -> x.settle(0));
         }
+        E.refused("30 SPENT ahead of NONE", () -> manyPennies(), SPENT, (x, n) -> x.settle(0));
+        C.due("30 SPENT where the first would do", manyPennies().settle(1), SPENT);
+    }
+
+    /** As pennies(), with 26244 PLANS. */
+    private static ForceNet manyPennies() {
+        ForceNet x = Made.plain(11, 2);
+        tellPennies(x);
+        for (int s = 3; s < 11; s++) {
+            x.moves(s, 0, 3);
+        }
+        return x;
     }
 
     /** PLANS are those of all PLAYERS; 2 to the 31st, 32nd, .. are too many, too. */
@@ -517,6 +529,11 @@ final class LotEdgeTest {
     /** Alike MOVES of both lead from 0 to 1, unlike ones to 2; PLAYER 0 wants 1, PLAYER 1 wants 2. */
     private static ForceNet pennies() {
         ForceNet x = Made.plain(3, 2);
+        tellPennies(x);
+        return x;
+    }
+
+    private static void tellPennies(ForceNet x) {
         x.moves(0, 0, 2);
         x.moves(0, 1, 2);
         x.step(0, 0, 1);
@@ -526,7 +543,6 @@ final class LotEdgeTest {
         x.goal(0, 2);
         x.goal(1, 4);
         x.choose(0, 0, 1);
-        return x;
     }
 
     /** "PLANS by numbers: PLAYER 0 first, STATE by STATE": the first that are STABLE, whatever was CHOSEN. */
